@@ -118,9 +118,12 @@ public final class OnChin {
         if (!isThing(up.thing) || up.fell(told.numbers) || !hasLumps(up.thing)) {
             return NOT;
         }
-        int before = up.t;
-        up.goOn(told.things[up.thing], told.numbers, Math.min(TICKS, before + n));
-        return up.t - before;
+        int went = 0;
+        while (went < n && up.t < TICKS && !up.fell(told.numbers)) {
+            up.tick(told.things[up.thing], told.numbers, true, 0);
+            went++;
+        }
+        return went;
     }
 
     public int now(int what) {
@@ -208,8 +211,7 @@ public final class OnChin {
             return refusal;
         }
         keeper.takeRule(told.numbers);
-        int above = keeper.chances(told.things[thing], x, n, w, p);
-        return part == 0 ? aboveInTens(above, n) : belowInTens(above, n);
+        return lowestTerms(keeper.chances(told.things[thing], x, n, w, p), n, part);
     }
 
     public int stands(int thing, int x) {
@@ -359,7 +361,10 @@ public final class OnChin {
     }
 
     private static int limited(int number, int most) {
-        return Math.max(-most, Math.min(most, number));
+        if (number > most) {
+            return most;
+        }
+        return number < -most ? -most : number;
     }
 
     /** What a man wants to move by who sees this; FLOORS are not his business yet. */
@@ -370,26 +375,21 @@ public final class OnChin {
         return limited((rule[A] * seen + rule[B] * (seen - before)) / 10, rule[REACH]);
     }
 
-    /** Below a part there is a power of ten, so 2 and 5 alone can be struck out. */
-    private static int aboveInTens(int above, int n) {
-        return above / sharedInTens(above, n);
-    }
-
-    private static int belowInTens(int above, int n) {
-        return power(10, n) / sharedInTens(above, n);
-    }
-
-    private static int sharedInTens(int above, int n) {
-        return sharedPower(above, 2, n) * sharedPower(above, 5, n);
-    }
-
-    /** The greatest power of a prime, to its nth, that goes into a number; always 1 at least. */
-    private static int sharedPower(int number, int prime, int n) {
-        int shared = 1;
-        for (int i = 0; i < n && number % (shared * prime) == 0; i++) {
-            shared *= prime;
+    /** A part of 10 to the nth: 2 and 5 alone can be struck out of it, n times each. */
+    private static int lowestTerms(int tenths, int n, int part) {
+        int above = tenths;
+        int below = power(10, n);
+        for (int i = 0; i < n; i++) {
+            if (above % 2 == 0) {
+                above /= 2;
+                below /= 2;
+            }
+            if (above % 5 == 0) {
+                above /= 5;
+                below /= 5;
+            }
         }
-        return shared;
+        return part == 0 ? above : below;
     }
 
     private static int power(int base, int n) {
@@ -506,20 +506,22 @@ public final class OnChin {
                 lumps[i] = told.things[i].lumps;
             }
             behind = 0;
-            readToken();
-            for (lines = 0; lines < LINES; readToken()) {
-                filled = lines * LONGEST;
+            for (int i = 0; i < LINES; i++) {
+                lines = i;
+                filled = i * LONGEST;
+                readToken();
                 if (!readLine()) {
                     return from;
                 }
-                lines++;
                 if (token == END) {
+                    lines = i + 1;
                     return NONE;
                 }
-                if (token != OTHER || bytes[from] != SEMICOLON || lines == LINES) {
+                if (token != OTHER || bytes[from] != SEMICOLON) {
                     return from;
                 }
             }
+            // The ; behind the last LINE that there may be.
             return from;
         }
 
@@ -538,10 +540,10 @@ public final class OnChin {
         }
 
         private static int sort(int oneByte) {
-            if (within(oneByte, 'a', 'z')) {
+            if (oneByte >= 'a' && oneByte <= 'z') {
                 return WORD;
             }
-            return within(oneByte, '0', '9') ? DIGITS : OTHER;
+            return oneByte >= '0' && oneByte <= '9' ? DIGITS : OTHER;
         }
 
         private boolean says(String word) {
@@ -746,13 +748,6 @@ public final class OnChin {
             return x > rule[BOUND] || x < -rule[BOUND];
         }
 
-        /** Goes on, minded, till that TICK, or till it has FALLEN. */
-        void goOn(Thing what, int[] rule, int till) {
-            while (t < till && !fell(rule)) {
-                tick(what, rule, true, 0);
-            }
-        }
-
         void tick(Thing what, int[] rule, boolean minded, int gust) {
             int pull = t % 2 == 0 ? rule[PULL] + rule[SHAKE] : rule[PULL] - rule[SHAKE];
             m = minded ? move(what, rule) : 0;
@@ -770,12 +765,27 @@ public final class OnChin {
         }
 
         private int was(int tick) {
-            return trail[Math.max(0, tick) & TRAIL - 1];
+            return tick > 0 ? trail[tick & TRAIL - 1] : trail[0];
+        }
+
+        /** Whether all that the next TICKS hang on, so far back, is as it was at the mark. */
+        boolean isAgain(Balance mark, int farBack) {
+            if (x != mark.x || v != mark.v || f != mark.f || (t - mark.t) % 2 != 0) {
+                return false;
+            }
+            for (int i = 1; i <= farBack; i++) {
+                if (was(t - i) != mark.was(mark.t - i)) {
+                    return false;
+                }
+            }
+            return true;
         }
     }
 
     /** Tries how long THINGS are kept, by a rule that may differ from what is told. */
     private static final class Keeper {
+        private static final int MARK = 4;
+
         final int[] rule = new int[NUMBERS];
         final Balance first = new Balance();
         final Balance second = new Balance();
@@ -785,18 +795,38 @@ public final class OnChin {
             System.arraycopy(numbers, 0, rule, 0, NUMBERS);
         }
 
+        /**
+         * How many TICKS it is kept, minded, at most so many. What is as it was before goes round
+         * for ever: it is marked at TICKS ever farther apart, so that every round is found.
+         */
         int lasts(Thing thing, int x, int v, int most) {
+            int farBack = rule[LATE] + thing.seenLater() + 1;
+            int mark = MARK;
             first.start(0, x, v);
-            first.goOn(thing, rule, most);
+            for (int i = 0; i < most && !first.fell(rule); i++) {
+                if (i > MARK && first.isAgain(second, farBack)) {
+                    return most;
+                }
+                if (i == mark) {
+                    second.copy(first);
+                    mark *= 2;
+                }
+                first.tick(thing, rule, true, 0);
+            }
             return first.t;
         }
 
         int leastFrom(Thing thing, int k) {
             int least = TICKS;
-            for (int x = -k; x <= k; x++) {
+            for (int x = leftmost(k); x <= k; x++) {
                 least = Math.min(least, lasts(thing, x, 0, TICKS));
             }
             return least;
+        }
+
+        /** Without WIND all goes to the left as it goes to the right. */
+        private int leftmost(int k) {
+            return rule[WIND] == 0 ? 0 : -k;
         }
 
         int shortestSteady(int k) {
@@ -812,10 +842,10 @@ public final class OnChin {
             return shortest;
         }
 
-        /** Asks the greatest leans first: where one is lost, it is mostly these. */
         private boolean isSteady(Thing thing, int k) {
-            for (int x = k; x >= 0; x--) {
-                if (lasts(thing, x, 0, TICKS) < TICKS || lasts(thing, -x, 0, TICKS) < TICKS) {
+            int least = leftmost(k);
+            for (int x = k; x >= least; x--) {
+                if (lasts(thing, x, 0, TICKS) < TICKS) {
                     return false;
                 }
             }
@@ -831,7 +861,7 @@ public final class OnChin {
                 for (int b = 0; b <= RULES && best < perfect; b++) {
                     rule[A] = a;
                     rule[B] = b;
-                    int together = together(thing, k);
+                    int together = together(thing, k, best);
                     if (together > best) {
                         best = together;
                         bestA = a;
@@ -845,10 +875,11 @@ public final class OnChin {
             return what == 1 ? bestA : bestB;
         }
 
-        private int together(Thing thing, int k) {
-            int together = 0;
-            for (int x = -k; x <= k; x++) {
-                together += lasts(thing, x, 0, TICKS);
+        /** What is KEPT together; once it cannot be above the best, something not above that. */
+        private int together(Thing thing, int k, int best) {
+            int together = TICKS * (2 * k + 1);
+            for (int x = k; x >= -k && together > best; x--) {
+                together -= TICKS - lasts(thing, x, 0, TICKS);
             }
             return together;
         }
@@ -886,7 +917,7 @@ public final class OnChin {
 
         private boolean standsAlone(Thing thing, int x) {
             first.start(0, x, 0);
-            while (first.t < TICKS && !first.fell(rule)) {
+            for (int i = 0; i < TICKS && !first.fell(rule); i++) {
                 first.tick(thing, rule, false, 0);
             }
             return first.t == TICKS;
@@ -895,8 +926,8 @@ public final class OnChin {
         /** From where first and second are; the first is minded p TICKS, then the second q. */
         int bothLast(Thing one, Thing other, int p, int q) {
             int round = Math.max(1, p + q);
-            while (first.t < TICKS && !first.fell(rule) && !second.fell(rule)) {
-                boolean mindsFirst = first.t % round < p;
+            for (int i = 0; i < TICKS && !first.fell(rule) && !second.fell(rule); i++) {
+                boolean mindsFirst = i % round < p;
                 first.tick(one, rule, mindsFirst, 0);
                 second.tick(other, rule, !mindsFirst, 0);
             }
@@ -1057,7 +1088,7 @@ public final class OnChin {
                 enter(start, 0, 0);
             }
             // CELLS are left in the order of their steps, so what a CELL has is final by then.
-            for (int i = 0; i < known; i++) {
+            for (int i = 0; i < CELLS && i < known; i++) {
                 for (int side = 0; side < 4; side++) {
                     int cell = beside(reached[i], side);
                     if (cell != NONE && isOpen(cell, most, tallest)) {
