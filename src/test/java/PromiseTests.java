@@ -26,6 +26,7 @@ public final class PromiseTests {
         tests.now();
         tests.images();
         tests.kept();
+        tests.keptNearlyRound();
         tests.steady();
         tests.line();
         tests.best();
@@ -575,6 +576,25 @@ public final class PromiseTests {
         due("what is kept up stays", c.now(0), x);
     }
 
+    private void dueKept(String text, int x, int v, int ticks) {
+        due(text, Checks.told(text).kept(0, x, v), ticks);
+    }
+
+    /** What comes back to an X, a V, an F or to what was seen, but not to all of these. */
+    private void keptNearlyRound() {
+        group = "promise 13, nearly round";
+        dueKept("man 0 22 1 2 0;thing 0 wet 6;lump 0 259 1;floor 14;pull 2;bound 219;shake 30", 6, 1, 37);
+        dueKept("man 0 10 0 23 0;thing 0 turning 2;lump 0 197 1;floor 400;pull 34;bound 14", -5, 0, 162);
+        dueKept("man 1 16 0 6 9;lump 0 173 1;floor 7;pull 3;bound 85;shake 26", -9, 0, 37);
+        dueKept("man 20 13 1 30 0;thing 0 turning 1;lump 0 90 1;floor 2;pull 5;bound 84;wind 1;shake 15",
+            -1, 1, 233);
+        dueKept("man 1 11 1 20 0;thing 0 turning 5;lump 0 67 1;floor 400;pull 39;bound 102;shake 17", -2, 0, 49);
+        dueKept("man 16 15 1 22 0;thing 0 wet 5;lump 0 223 1;floor 400;pull 4;bound 21", -3, 0, 19);
+        dueKept("man 12 29 1 19 0;thing 0 jointed 7;lump 0 178 1;floor 18;pull 6;bound 186", -14, 0, 31);
+        dueKept("man 1 17 3 27 0;thing 0 jointed 3;lump 0 121 1;floor 400;pull 5;bound 192", -14, 0, 97);
+        dueKept("man 18 28 0 17 0;thing 0 wet 5;lump 0 218 1;floor 3;pull 22;bound 153;wind 2;shake 23", 0, 0, 8);
+    }
+
     private void steady() {
         group = "promise 14";
         OnChin c = Checks.told(STILL);
@@ -636,6 +656,9 @@ public final class PromiseTests {
         dueBest("lump 0 60 5;man 40 40 0 50 0", 4, 2826, 8, 0);
         dueBest("lump 0 150 5;man 0 0 2 50 0;wind 1", 1, 54, 12, 4);
         dueBest("lump 0 40 1;thing 0 wet 3;man 0 0 0 20 0", 4, 2048, 15, 3);
+        dueBest("lump 0 35 1;man 0 0 2 9 0;pull 35;thing 0 wet 4", 1, 418, 20, 20);
+        dueBest("lump 0 113 1;man 0 0 0 33 0;pull 34", 4, 3214, 5, 0);
+        dueBest("lump 0 98 1;man 0 0 1 21 0;pull 40;thing 0 turning 3", 4, 3024, 7, 0);
         // it falls in the first TICK whatever he does: the least A and B
         dueBest("lump 0 1 1;pull 99;bound 1;wind 20;man 9 9 0 1 0", 0, 1, 0, 0);
         OnChin c = Checks.told("lump 0 60 5");
@@ -887,6 +910,8 @@ public final class PromiseTests {
         duePlan(c, 9, 2);
         Checks.tell(c, "bare 2;lump 2 181 1");
         duePlan(c, 9, 2);
+        Checks.tell(c, "bare 2;lump 2 47 1");
+        duePlan(c, 8, 2);
         Checks.tell(c, "man 0 0 0 1 0");
         duePlan(c, 0, 2, 2, 2);
         Checks.tell(c, "bound 9");
