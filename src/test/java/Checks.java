@@ -2,13 +2,27 @@
 final class Checks {
     private int wrong = 0;
     private int asked = 0;
+    private String sentence = "";
+
+    /** The words of the document that the answers from here on are asked for. */
+    void sentence(String words) {
+        sentence = "'" + words + "': ";
+    }
 
     void due(String call, int got, int want) {
         asked++;
         if (got != want) {
             wrong++;
-            System.out.println(call + " answered " + got + ", due is " + want);
+            System.out.println(sentence + call + " answered " + got + ", due is " + want);
         }
+    }
+
+    void dueNow(OnChin c, int x, int v, int f, int ticks, int m) {
+        due("now X", c.now(0) - 1000000, x);
+        due("now V", c.now(1) - 1000000, v);
+        due("now F", c.now(2) - 1000, f);
+        due("now TICKS", c.now(3), ticks);
+        due("now M", c.now(4) - 1000, m);
     }
 
     boolean isClean() {
