@@ -31,6 +31,7 @@ public final class FaceTests {
         tests.members();
         tests.nested(OnChin.class);
         tests.words();
+        tests.roomOfCalls();
         tests.checks.end();
     }
 
@@ -96,6 +97,53 @@ public final class FaceTests {
                 holds(f + " is no static state", !Modifier.isStatic(bits) || Modifier.isFinal(bits));
             }
         }
+    }
+
+    /** All rows are made in the constructor: what a run takes does not grow with its calls. */
+    private void roomOfCalls() {
+        com.sun.management.ThreadMXBean threads =
+            (com.sun.management.ThreadMXBean) java.lang.management.ManagementFactory.getThreadMXBean();
+        long me = Thread.currentThread().getId();
+        long least = Long.MAX_VALUE;
+        for (int round = 0; round < 3; round++) {
+            OnChin chin = Checks.told("lump 0 60 5;lump 1 90 2;lump 1 30 1;wind 1;shake 3");
+            long text = Checks.packed("pull 19 ", 0, 8);
+            long before = threads.getThreadAllocatedBytes(me);
+            askAll(chin, text);
+            least = Math.min(least, threads.getThreadAllocatedBytes(me) - before);
+        }
+        // the first rounds load classes; what is left is at most the measuring itself
+        holds("calls make no objects: " + least + " bytes", least < 256);
+    }
+
+    private static void askAll(OnChin c, long text) {
+        c.write(text, 8);
+        c.fault();
+        c.chin();
+        c.write(text, 3);
+        c.erase();
+        c.thing(0, 3);
+        c.lump(1, 1, 0);
+        c.begin(1, 9, 1);
+        c.ticks(3);
+        c.now(0);
+        c.keep(0);
+        c.back(0);
+        c.kept(0, 5, 0);
+        c.steady(0, 3);
+        c.line(2);
+        c.best(0, 1, 0);
+        c.odds(0, 5, 6, 9, 3, 0);
+        c.stands(1, 2);
+        c.two(0, 1, 1, 2, 1, 1);
+        c.film(5, 5);
+        c.fits(0);
+        c.next(4, 1);
+        c.wind();
+        c.plan(5, 1);
+        c.room(7, 5, 100);
+        c.way(0, 0, 35, 9, 1);
+        c.count(5);
     }
 
     private void words() throws Exception {

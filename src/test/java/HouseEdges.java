@@ -21,6 +21,7 @@ public final class HouseEdges {
         tests.draughtAtMost();
         tests.lampNotAbove();
         tests.fewestSteps();
+        tests.noWayOut();
         tests.bothEnds();
         tests.wayToItself();
         tests.counts();
@@ -133,6 +134,18 @@ public final class HouseEdges {
         Checks.tell(c, "man 11 14 1 9 0");
         due("by LATE 1", Math.max(c.kept(1, 10, 0), 40), c.kept(1, 10, 0));
         duePlan(c, 7, 1);
+        // LATE 6 is the most: one that is kept by LATE 5, not by LATE 6, and one the other way round
+        c = Checks.told("man 19 22 6 24 0;lump 0 210 1;pull 4;bound 171");
+        due("by LATE 6", c.kept(0, 10, 0), 28);
+        duePlan(c, 60, 0, 0);
+        Checks.tell(c, "man 19 22 5 24 0");
+        due("by LATE 5", c.kept(0, 10, 0), 47);
+        duePlan(c, 49, 0);
+        c = Checks.told("man 10 27 6 16 3;lump 0 223 1;pull 5;bound 100");
+        due("by LATE 6", c.kept(0, 10, 0), 42);
+        duePlan(c, 59, 0);
+        // 59 tenths are LATE 5
+        duePlan(c, 59, 0, 0);
     }
 
     private void planTheFirst() {
@@ -278,6 +291,30 @@ public final class HouseEdges {
         due("no way", c.way(0, 0, 6, 98, 0), NONE);
         due("no way", c.way(0, 0, 6, 98, 1), NONE);
         due("all open", c.way(0, 0, 35, 99, 0), 10);
+    }
+
+    private void noWayOut() {
+        checks.sentence("WAY: NONE: there is none");
+        OnChin c = Checks.told("lump 0 10 1");
+        for (int from : new int[] {0, 5, 30, 35, 14, 21}) {
+            due("a way to all CELLS", Math.min(c.way(0, 0, 35, 99, 0), c.way(0, 35, 0, 99, 0)), 10);
+            due("a way", Math.max(c.way(0, from, 17, 99, 0), 1), c.way(0, from, 17, 99, 0));
+            int[] around = {from - 6, from - 1, from + 1, from + 6};
+            for (int cell : around) {
+                if (cell >= 0 && cell < 36) {
+                    c.room(cell, 60, 0);
+                }
+            }
+            for (int to = 0; to < 36; to += 7) {
+                due("shut in " + from, c.way(0, from, to, 59, 0), to == from ? 0 : NONE);
+                due("shut in " + from, c.way(0, from, to, 59, 1), to == from ? 0 : NONE);
+            }
+            for (int cell : around) {
+                if (cell >= 0 && cell < 36) {
+                    c.room(cell, 0, 0);
+                }
+            }
+        }
     }
 
     private void bothEnds() {

@@ -210,7 +210,14 @@ public final class HowLongEdges {
             dueBest(FREE, k, 400 * (2 * k + 1), 0, 0);
         }
         dueBest(FREE + ";bound 3", 4, 2800, 0, 0);
-        dueBest(STILL + ";wind 20;bound 1;pull 99", 4, 9 - 6, 0, 0);
+        // k 0: X 0 alone, which WIND carries away
+        dueBest("man 0 0 0 22 2;lump 0 200 1;pull 14;bound 82;wind 3", 0, 13, 12, 5);
+        dueBest("man 0 0 2 17 0;lump 0 38 1;pull 49;bound 95;wind 1", 0, 6, 20, 20);
+        // others fall in TICK 399, when FLOOR is at its end: they are not the best
+        dueBest("man 0 0 1 5 1;lump 0 281 1;pull 72;bound 43;floor 390", 4, 3600, 13, 0);
+        dueBest("man 0 0 1 5 0;lump 0 272 1;pull 81;bound 10;floor 393", 4, 3600, 13, 0);
+        // X -1, 0, 1 alone have not FALLEN as they begin, and do at once
+        dueBest(STILL + ";wind 20;bound 1;pull 99", 4, 3, 0, 0);
     }
 
     private void bestOfSeveral() {

@@ -265,6 +265,9 @@ public final class TextEdges {
                 dueThing(text + s + ";thing 1 plain", 1, 0, 0);
                 dueThing(text + s + ";thing 1 plain", 1, 1, 0);
             }
+            OnChin c = Checks.told(text + "9");
+            Checks.tell(c, "thing 1 plain");
+            checks.due("S of a PLAIN one, told later", c.thing(1, 1), 0);
             for (String s : new String[] {"0", "10", "00", "000", "0001", "99", "999"}) {
                 dueFault(text + s, text.length());
             }
@@ -405,6 +408,7 @@ public final class TextEdges {
         OnChin c = Checks.told("lump 1 10 2;lump 1 30 4;lump 0 5 5");
         for (String kind : new String[] {"wet 3", "jointed 9", "turning 1", "plain"}) {
             checks.due("chin", Checks.tell(c, "thing 1 " + kind), 1);
+            checks.due("of another THING", c.thing(0, 1), 0);
             checks.due("LUMPS", c.thing(1, 2), 2);
             checks.due("LONG", c.thing(1, 3), 27);
             checks.due("HEIGHT", c.lump(1, 1, 0), 30);
