@@ -20,7 +20,8 @@ public final class HowLongRows {
     /** Long searches found none: sooner or later WIND alone carries these away. */
     private static final Set<String> NOT_FOUND = Set.of(
         "STEADY plain WIND not by 400", "STEADY wet WIND not by 400", "STEADY jointed WIND not by 400",
-        "BEST plain WIND not by 400", "BEST wet WIND not by 400", "BEST jointed WIND not by 400");
+        "BEST plain WIND not by 400", "BEST wet WIND not by 400", "BEST jointed WIND not by 400",
+        "LINE plain WIND not by 400");
 
     private final Checks checks = new Checks();
     private final Set<String> seen = new TreeSet<>();
@@ -147,6 +148,7 @@ public final class HowLongRows {
         Checks.tell(c, "lump 0 " + below + " 7");
         int lost = c.steady(0, k);
         checks.due("a HEIGHT of " + below + " is not STEADY, " + row, lost, Math.min(lost, TICKS - 1));
+        note("LINE", row, row.due[0] == NONE ? fate(lost) : FATES[2]);
     }
 
     private void best(Row row) {
@@ -222,8 +224,10 @@ public final class HowLongRows {
         OnChin c = row.chin();
         String otherwise = (c.count(8) != 0 ? "WIND " : "") + (c.count(9) != 0 ? "SHAKE " : "")
             + (c.count(2) != 1 ? "LATE " : "") + (c.count(4) != 0 ? "DEAD " : "");
+        // LINE has no THINGS of its own: it is about PLAIN ones
+        String things = row.things.equals("-") ? KINDS[0] : row.things;
         for (String kind : KINDS) {
-            if (row.things.contains(kind)) {
+            if (things.contains(kind)) {
                 seen.add(section + " " + kind + " " + otherwise + fate);
             }
         }
@@ -234,13 +238,17 @@ public final class HowLongRows {
         checks.sentence("the rows");
         for (String section : new String[] {"KEPT", "STEADY", "BEST", "STANDS", "TWO", "EVENING"}) {
             for (String kind : KINDS) {
-                for (String otherwise : OTHERWISE) {
-                    for (String fate : FATES) {
-                        String which = section + " " + kind + " " + otherwise + fate;
-                        checks.due("there is " + which, seen.contains(which) ? 1 : 0,
-                            NOT_FOUND.contains(which) ? 0 : 1);
-                    }
-                }
+                allOf(section + " " + kind + " ");
+            }
+        }
+        allOf("LINE plain ");
+    }
+
+    private void allOf(String which) {
+        for (String otherwise : OTHERWISE) {
+            for (String fate : FATES) {
+                String row = which + otherwise + fate;
+                checks.due("there is " + row, seen.contains(row) ? 1 : 0, NOT_FOUND.contains(row) ? 0 : 1);
             }
         }
     }
